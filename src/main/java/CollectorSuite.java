@@ -423,8 +423,7 @@ public final class CollectorSuite {
                         AGEING * CELLS + NURSERY, AGEING * CELLS + CELLS);
                 break;
             case STEPPING:
-                // A round under way keeps what its snapshot held; only a new one is exact.
-                finishMarking();
+                // A round under way would keep all that its snapshot held; a new one is exact.
                 beginMarking();
                 finishMarking();
                 break;
@@ -646,13 +645,11 @@ public final class CollectorSuite {
     }
 
     private void finishMarking() {
-        boolean more = marking;
+        boolean more = true;
         for (int step = 0; step < CELLS && more; step++) {
             more = blackenOne();
         }
-        if (marking) {
-            endMarking();
-        }
+        endMarking();
     }
 
     private void endMarking() {
