@@ -2,13 +2,25 @@
 final class Checks {
     private int wrong = 0;
     private int asked = 0;
+    private int sentences = 0;
+    private int askedBefore = 0;
+    private String sentence = "";
+
+    /** What is asked from here on is asked for this sentence of the document. */
+    void sentence(String text) {
+        endSentence();
+        sentences++;
+        askedBefore = asked;
+        sentence = text;
+    }
 
     void due(String call, long got, long want) {
         asked++;
         if (got != want) {
             wrong++;
             if (wrong <= 50) {
-                System.out.println(call + " answered " + got + ", due is " + want);
+                String prefix = sentence.isEmpty() ? "" : "[" + sentence + "] ";
+                System.out.println(prefix + call + " answered " + got + ", due is " + want);
             }
         }
     }
@@ -23,9 +35,17 @@ final class Checks {
 
     /** Ends the program, with exit code 1 if an answer was wrong or none was asked for. */
     void end() {
-        System.out.println(asked + " answers, " + wrong + " not as due");
+        endSentence();
+        String ofSentences = sentences == 0 ? "" : sentences + " sentences, ";
+        System.out.println(ofSentences + asked + " answers, " + wrong + " not as due");
         if (wrong != 0 || asked == 0) {
             System.exit(1);
+        }
+    }
+
+    private void endSentence() {
+        if (sentences > 0 && asked == askedBefore) {
+            fault("nothing was asked for this sentence");
         }
     }
 }
