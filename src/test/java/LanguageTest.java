@@ -25,10 +25,15 @@ public final class LanguageTest extends TreeScanner<Void, Void> {
             Tree.Kind.RECORD, Tree.Kind.ANNOTATION, Tree.Kind.NEW_CLASS, Tree.Kind.MEMBER_SELECT,
             Tree.Kind.NULL_LITERAL, Tree.Kind.STRING_LITERAL, Tree.Kind.FLOAT_LITERAL,
             Tree.Kind.DOUBLE_LITERAL, Tree.Kind.WHILE_LOOP, Tree.Kind.DO_WHILE_LOOP,
-            Tree.Kind.ENHANCED_FOR_LOOP);
+            Tree.Kind.ENHANCED_FOR_LOOP, Tree.Kind.TYPE_CAST,
+            // Nothing needs a divisor, so none has to be looked at (rule 7).
+            Tree.Kind.DIVIDE, Tree.Kind.REMAINDER, Tree.Kind.DIVIDE_ASSIGNMENT,
+            Tree.Kind.REMAINDER_ASSIGNMENT);
     private static final Checks CHECKS = new Checks();
 
     private final Map<String, Set<String>> calls = new TreeMap<>();
+    private final Set<String> constants = new TreeSet<>();
+    private final Set<String> arrays = new TreeSet<>();
     private final CompilationUnitTree unit;
     private final SourcePositions positions;
     private int classes = 0;
@@ -98,6 +103,11 @@ public final class LanguageTest extends TreeScanner<Void, Void> {
     public Void visitClass(ClassTree tree, Void none) {
         classes++;
         for (Tree member : tree.getMembers()) {
+            if (member instanceof VariableTree variable && variable.getType() instanceof ArrayTypeTree) {
+                arrays.add(variable.getName().toString());
+            }
+        }
+        for (Tree member : tree.getMembers()) {
             if (member instanceof VariableTree variable) {
                 field(variable);
             } else {
@@ -110,16 +120,59 @@ public final class LanguageTest extends TreeScanner<Void, Void> {
     private void field(VariableTree tree) {
         boolean constant = tree.getModifiers().getFlags().contains(Modifier.STATIC);
         if (constant) {
+            constants.add(tree.getName().toString());
             String type = tree.getType().toString();
             CHECKS.due(tree.getName() + " is a final int or long", (type.equals("int")
                     || type.equals("long")) && tree.getModifiers().getFlags().contains(Modifier.FINAL),
                     true);
         } else {
             fields++;
+            CHECKS.due(tree.getName() + " is private",
+                    tree.getModifiers().getFlags().contains(Modifier.PRIVATE), true);
+            typeOfField(tree);
         }
         inFieldInitialiser = !constant;
         scan(tree, null);
         inFieldInitialiser = false;
+    }
+
+    private static void typeOfField(VariableTree tree) {
+        if (tree.getType() instanceof ArrayTypeTree type) {
+            CHECKS.due(tree.getName() + " has one dimension", isPlain(type.getType()), true);
+            CHECKS.due(tree.getName() + " is made once and never assigned to",
+                    tree.getInitializer() instanceof NewArrayTree
+                    && tree.getModifiers().getFlags().contains(Modifier.FINAL), true);
+        } else {
+            CHECKS.due(tree.getName() + " is of a plain type", isPlain(tree.getType()), true);
+        }
+    }
+
+    private static boolean isPlain(Tree type) {
+        return type instanceof PrimitiveTypeTree;
+    }
+
+    // No local variable and no parameter of this class is an array, so arrays are never answered,
+    // compared or changed for one another as long as each name stands before an index.
+    @Override
+    public Void visitVariable(VariableTree tree, Void none) {
+        boolean isLocal = !inFieldInitialiser && !constants.contains(tree.getName().toString());
+        CHECKS.due(tree.getName() + " is of a plain type, " + where(tree),
+                !isLocal || isPlain(tree.getType()), true);
+        return super.visitVariable(tree, none);
+    }
+
+    @Override
+    public Void visitArrayAccess(ArrayAccessTree tree, Void none) {
+        CHECKS.due("an array field stands before the index, " + where(tree),
+                tree.getExpression() instanceof IdentifierTree, true);
+        return scan(tree.getIndex(), none);
+    }
+
+    @Override
+    public Void visitIdentifier(IdentifierTree tree, Void none) {
+        CHECKS.due(tree.getName() + " is used without an index, " + where(tree),
+                arrays.contains(tree.getName().toString()), false);
+        return super.visitIdentifier(tree, none);
     }
 
     @Override
@@ -130,6 +183,8 @@ public final class LanguageTest extends TreeScanner<Void, Void> {
         long from = line(positions.getStartPosition(unit, tree));
         long lines = line(positions.getEndPosition(unit, tree)) - from + 1;
         CHECKS.due(method + " is short: " + lines, lines <= 60, true);
+        CHECKS.due(method + " answers a plain type",
+                tree.getReturnType() == null || isPlain(tree.getReturnType()), true);
         CHECKS.due(method + " takes at most seven", tree.getParameters().size() <= 7, true);
         return super.visitMethod(tree, none);
     }
@@ -152,6 +207,10 @@ public final class LanguageTest extends TreeScanner<Void, Void> {
     public Void visitNewArray(NewArrayTree tree, Void none) {
         CHECKS.due("array made in a field's initialiser, " + where(tree), inFieldInitialiser, true);
         CHECKS.due("one dimension, " + where(tree), tree.getDimensions().size(), 1);
+        for (ExpressionTree length : tree.getDimensions()) {
+            CHECKS.due("the length is a literal or a constant, " + where(tree),
+                    length instanceof LiteralTree || constants.contains(length.toString()), true);
+        }
         return super.visitNewArray(tree, none);
     }
 
